@@ -5,11 +5,17 @@ final class Due {
     }
 
     private final String test;
+    private String sentence = "";
     private int wrong = 0;
     private int asked = 0;
 
     Due(String test) {
         this.test = test;
+    }
+
+    /** The sentence of the document that the next calls are asked by. */
+    void by(String words) {
+        sentence = "(" + words + ") ";
     }
 
     static String outcome(Call call) {
@@ -32,7 +38,7 @@ final class Due {
         asked++;
         if (!want.equals(got)) {
             wrong++;
-            System.out.println(test + ": " + what + " answered " + got + ", due is " + want);
+            System.out.println(test + ": " + sentence + what + " answered " + got + ", due is " + want);
         }
     }
 
