@@ -9,11 +9,25 @@ import java.util.TreeSet;
 /** The public face of the document, and rule 1 of the language. */
 public final class FaceTest {
     private static final String[] FACE = {
-        "int put(int,int,int,int)", "int take(int,int,int,int)", "int move(int,int,int,int,int)",
-        "int closed(int,boolean)", "int window(int,int)", "int counted(int,int,int)",
-        "int expected(int,int)", "int differ(int,int)", "int search(int,int)", "boolean exact()",
-        "int steps()", "int ties()", "int often(int)", "int found(int,int)", "int accept()",
-        "int back(int)", "int share(int,int)", "int told(int,int)", "int of(int,int,int)",
+        "int put(int,int,int,int) throws IllegalArgumentException,UnsupportedOperationException",
+        "int take(int,int,int,int) throws IllegalArgumentException,UnsupportedOperationException",
+        "int move(int,int,int,int,int) throws IllegalArgumentException,UnsupportedOperationException",
+        "int closed(int,boolean) throws NoSuchElementException",
+        "int window(int,int) throws IllegalArgumentException",
+        "int counted(int,int,int) throws IllegalArgumentException",
+        "int expected(int,int) throws IllegalArgumentException",
+        "int differ(int,int) throws NoSuchElementException,IllegalArgumentException",
+        "int search(int,int) throws IllegalArgumentException",
+        "boolean exact()",
+        "int steps()",
+        "int ties()",
+        "int often(int) throws NoSuchElementException",
+        "int found(int,int) throws NoSuchElementException,IllegalArgumentException",
+        "int accept() throws IllegalStateException",
+        "int back(int) throws NoSuchElementException,IllegalStateException",
+        "int share(int,int) throws IllegalArgumentException,ArithmeticException",
+        "int told(int,int) throws NoSuchElementException,IllegalArgumentException",
+        "int of(int,int,int) throws IllegalArgumentException",
         "int count(int)",
     };
     private static final Due due = new Due("FaceTest");
@@ -31,6 +45,12 @@ public final class FaceTest {
                     () -> Modifier.isPrivate(f.getModifiers()) ? 1 : 0);
         }
         due.same("private methods with a public one's name", "[]", hiddenNamesakes(face).toString());
+        for (Class<?> inside : face.getDeclaredClasses()) {
+            due.is(inside.getName() + " is static, not to be seen", 1,
+                    () -> isStaticAndHidden(inside) ? 1 : 0);
+            due.same(inside.getName() + ", methods with a public one's name", "[]",
+                    hiddenNamesakes(inside).toString());
+        }
         due.end();
     }
 
@@ -38,16 +58,33 @@ public final class FaceTest {
         return Modifier.isPublic(c.getModifiers()) && Modifier.isFinal(c.getModifiers());
     }
 
+    private static boolean isStaticAndHidden(Class<?> c) {
+        int m = c.getModifiers();
+        return Modifier.isStatic(m) && !Modifier.isPublic(m) && !Modifier.isProtected(m);
+    }
+
     private static Set<String> seen(Class<?> c) {
         Set<String> all = new TreeSet<>();
         for (Method m : c.getDeclaredMethods()) {
             if (!Modifier.isPrivate(m.getModifiers())) {
-                String types = Arrays.toString(m.getParameterTypes())
-                        .replace("[", "").replace("]", "").replace(" ", "");
-                all.add(m.getReturnType() + " " + m.getName() + "(" + types + ")");
+                all.add(m.getReturnType() + " " + m.getName() + "(" + names(m.getParameterTypes())
+                        + ")" + throwing(m));
             }
         }
         return all;
+    }
+
+    private static String throwing(Method m) {
+        String named = names(m.getExceptionTypes());
+        return named.isEmpty() ? "" : " throws " + named;
+    }
+
+    private static String names(Class<?>[] types) {
+        StringBuilder all = new StringBuilder();
+        for (Class<?> type : types) {
+            all.append(all.length() == 0 ? "" : ",").append(type.getSimpleName());
+        }
+        return all.toString();
     }
 
     private static Set<String> hiddenNamesakes(Class<?> c) {
